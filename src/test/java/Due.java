@@ -1,0 +1,51 @@
+/** Compares answers with those that are due, and ends the program with exit code 1 if one was wrong. */
+final class Due {
+    /** A call that is expected to throw. */
+    interface Call {
+        void make();
+    }
+
+    private int wrong;
+
+    void number(String call, long got, long want) {
+        if (got != want) {
+            tell(call + " answered " + got + ", due is " + want);
+        }
+    }
+
+    void truth(String call, boolean got, boolean want) {
+        if (got != want) {
+            tell(call + " answered " + got + ", due is " + want);
+        }
+    }
+
+    void text(String call, String got, String want) {
+        if (!got.equals(want)) {
+            tell(call + " answered " + got + ", due is " + want);
+        }
+    }
+
+    void thrown(String call, Class<? extends RuntimeException> want, Call made) {
+        Class<?> got = null;
+        try {
+            made.make();
+        } catch (RuntimeException e) {
+            got = e.getClass();
+        }
+        if (got != want) {
+            tell(call + " threw " + got + ", due is " + want);
+        }
+    }
+
+    void finish() {
+        if (wrong != 0) {
+            System.out.println(wrong + " answers are not as due");
+            System.exit(1);
+        }
+    }
+
+    private void tell(String fault) {
+        wrong++;
+        System.out.println(fault);
+    }
+}
