@@ -411,10 +411,10 @@ public final class SpillingColours {
 
         void takeOff(Groups groups, int k) {
             long left = groups.all;
-            int count = Long.bitCount(left);
-            for (taken = 0; taken < count; taken++) {
+            taken = Long.bitCount(left);
+            for (int i = 0; i < taken; i++) {
                 int group = nextToTake(groups, left, k);
-                order[taken] = group;
+                order[i] = group;
                 left &= ~bit(group);
             }
         }
