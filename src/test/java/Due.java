@@ -37,6 +37,19 @@ final class Due {
         }
     }
 
+    /** What every call answers that asks for a result where there is none. */
+    void noResult(String behind, SpillingColours x) {
+        number("lines() " + behind, x.lines(), SpillingColours.NONE);
+        number("slots() " + behind, x.slots(), SpillingColours.NONE);
+        number("joined() " + behind, x.joined(), SpillingColours.NONE);
+        truth("accepts() " + behind, x.accepts(), false);
+        for (int what = 0; what <= 4; what++) {
+            truth("spoil(0, " + what + ", 0) " + behind, x.spoil(0, what, 0), false);
+        }
+        thrown("line(0, 0) " + behind, IndexOutOfBoundsException.class, () -> x.line(0, 0));
+        thrown("run(1) " + behind, IllegalStateException.class, () -> x.run(1));
+    }
+
     void finish() {
         if (wrong != 0) {
             System.out.println(wrong + " answers are not as due");

@@ -1,5 +1,4 @@
-import java.util.ArrayList;
-import java.util.List;
+import java.util.Arrays;
 
 /** Many sources, made by a fixed rule: the program answers as the oracle does, call by call. */
 final class OracleTest {
@@ -43,33 +42,37 @@ final class OracleTest {
         DUE.finish();
     }
 
+    /** Every part has objects of its own: beyond 512 calls an object may answer what it likes. */
     private static void compare(int seed) {
         Numbers numbers = new Numbers(seed);
-        SpillingColours x = new SpillingColours();
-        Oracle y = new Oracle();
-        int sources = 1 + numbers.below(2);
-        for (int i = 0; i < sources; i++) {
-            List<String> told = new ArrayList<>();
-            fill(numbers, x, y, told);
-            String name = "seed " + seed + told;
-            sameLive(name, x, y);
-            allocateAll(name, numbers, x, y);
-            DUE.number(name + " clear", x.clear(), y.clear());
-            sameResult(name + " cleared", x, y);
+        int[][] lines = source(numbers);
+        String name = "seed " + seed + Arrays.deepToString(lines);
+        sameLive(name, lines);
+        for (int k = 3; k <= 6; k++) {
+            sameAllocation(name + " allocate(" + k + ")", numbers, lines, k);
         }
+        int[][] others = source(numbers);
+        sameBehindClear(name + Arrays.deepToString(others), lines, others, 3 + numbers.below(4));
     }
 
-    private static void fill(Numbers numbers, SpillingColours x, Oracle y, List<String> told) {
-        int lines = numbers.once(3) ? numbers.below(17) : 10 + numbers.below(7);
+    private static int[][] source(Numbers numbers) {
+        int count = numbers.once(3) ? numbers.below(17) : 10 + numbers.below(7);
         int values = numbers.once(3) ? 2 + numbers.below(9) : 7 + numbers.below(4);
         int style = numbers.below(4);
-        for (int i = 0; i < lines; i++) {
-            int op = pickOp(numbers, style, i, lines);
+        int[][] lines = new int[count][];
+        for (int i = 0; i < count; i++) {
+            int op = pickOp(numbers, style, i, count);
             int d = numbers.below(values);
-            int a = op == 5 ? target(numbers, lines) : op == 0 ? numbers.below(9) - 3 : numbers.below(values);
-            int b = op == 6 ? target(numbers, lines) : numbers.below(values);
-            told.add("put(" + op + ", " + d + ", " + a + ", " + b + ")");
-            DUE.number("put " + told, x.put(op, d, a, b), y.put(op, d, a, b));
+            int a = op == 5 ? target(numbers, count) : op == 0 ? numbers.below(9) - 3 : numbers.below(values);
+            int b = op == 6 ? target(numbers, count) : numbers.below(values);
+            lines[i] = new int[] {op, d, a, b};
+        }
+        return lines;
+    }
+
+    private static void fill(String name, int[][] lines, SpillingColours x, Oracle y) {
+        for (int[] n : lines) {
+            DUE.number(name + " put", x.put(n[0], n[1], n[2], n[3]), y.put(n[0], n[1], n[2], n[3]));
         }
     }
 
@@ -90,7 +93,10 @@ final class OracleTest {
         }
     }
 
-    private static void sameLive(String name, SpillingColours x, Oracle y) {
+    private static void sameLive(String name, int[][] lines) {
+        SpillingColours x = new SpillingColours();
+        Oracle y = new Oracle();
+        fill(name, lines, x, y);
         for (int line = -1; line <= 16; line++) {
             for (int value = -1; value <= 10; value++) {
                 DUE.truth(name + " live(" + line + ", " + value + ")", x.live(line, value), y.live(line, value));
@@ -98,19 +104,32 @@ final class OracleTest {
         }
     }
 
-    private static void allocateAll(String name, Numbers numbers, SpillingColours x, Oracle y) {
-        for (int k = 3; k <= 6; k++) {
-            String at = name + " allocate(" + k + ")";
-            int rounds = x.allocate(k);
-            DUE.number(at, rounds, y.allocate(k));
-            sameResult(at, x, y);
-            count(rounds, y);
-            if (rounds != SpillingColours.NONE) {
-                DUE.truth(at + " accepts by itself", x.accepts(), true);
-                sameRuns(at, x, y);
-                spoilSome(at, numbers, x, y, k);
-            }
+    private static void sameAllocation(String name, Numbers numbers, int[][] lines, int k) {
+        SpillingColours x = new SpillingColours();
+        Oracle y = new Oracle();
+        fill(name, lines, x, y);
+        int rounds = x.allocate(k);
+        DUE.number(name, rounds, y.allocate(k));
+        sameResult(name, x, y);
+        count(rounds, y);
+        if (rounds != SpillingColours.NONE) {
+            DUE.truth(name + " accepts by itself", x.accepts(), true);
+            sameRuns(name, x, y);
+            spoilSome(name, numbers, x, y, k);
         }
+    }
+
+    private static void sameBehindClear(String name, int[][] lines, int[][] others, int k) {
+        SpillingColours x = new SpillingColours();
+        Oracle y = new Oracle();
+        fill(name, lines, x, y);
+        DUE.number(name + " allocate", x.allocate(k), y.allocate(k));
+        DUE.number(name + " clear", x.clear(), y.clear());
+        sameResult(name + " cleared", x, y);
+        fill(name, others, x, y);
+        DUE.number(name + " allocate again", x.allocate(k), y.allocate(k));
+        sameResult(name + " allocated again", x, y);
+        sameRun(name + " allocated again", x, y, 0);
     }
 
     private static void count(int rounds, Oracle y) {
@@ -126,10 +145,14 @@ final class OracleTest {
         DUE.number(name + " lines()", x.lines(), y.lines());
         DUE.number(name + " slots()", x.slots(), y.slots());
         DUE.number(name + " joined()", x.joined(), y.joined());
-        for (int i = 0; i < Math.min(x.lines(), y.lines()); i++) {
-            for (int what = 0; what <= 4; what++) {
-                DUE.number(name + " line(" + i + ", " + what + ")", x.line(i, what), y.line(i, what));
-            }
+        for (int i = 0; i < y.lines(); i++) {
+            sameLine(name, i, x, y);
+        }
+    }
+
+    private static void sameLine(String name, int i, SpillingColours x, Oracle y) {
+        for (int what = 0; what <= 4; what++) {
+            DUE.number(name + " line(" + i + ", " + what + ")", x.line(i, what), y.line(i, what));
         }
     }
 
@@ -160,15 +183,17 @@ final class OracleTest {
 
     private static void spoilSome(String name, Numbers numbers, SpillingColours x, Oracle y, int k) {
         for (int times = 0; times < 4; times++) {
-            int i = numbers.below(x.lines() + 2) - 1;
+            int i = numbers.below(y.lines() + 2) - 1;
             int what = numbers.once(4) ? numbers.below(7) - 1 : 1 + numbers.below(3);
             int register = numbers.once(9) ? k : numbers.below(k + 1) - (numbers.once(9) ? 1 : 0);
             boolean spoilt = x.spoil(i, what, register);
             DUE.truth(name + " spoil(" + i + ", " + what + ", " + register + ")", spoilt, y.spoil(i, what, register));
+            if (i >= 0 && i < y.lines()) {
+                sameLine(name + " spoilt", i, x, y);
+            }
             sameAccepts(name + " spoilt", spoilt, x, y);
             sameRun(name + " spoilt", x, y, 1);
         }
-        sameResult(name + " spoilt", x, y);
     }
 
     private static void sameAccepts(String name, boolean spoilt, SpillingColours x, Oracle y) {
