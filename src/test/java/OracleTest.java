@@ -4,24 +4,6 @@ import java.util.Arrays;
 final class OracleTest {
     private static final int SOURCES = 3000;
 
-    /** A sequence that is the same in every run. */
-    private static final class Numbers {
-        private long state;
-
-        Numbers(long seed) {
-            state = seed * 2862933555777941757L + 3037000493L;
-        }
-
-        int below(int bound) {
-            state = state * 6364136223846793005L + 1442695040888963407L;
-            return (int) ((state >>> 33) % bound);
-        }
-
-        boolean once(int in) {
-            return below(in) == 0;
-        }
-    }
-
     private static final Due DUE = new Due();
     private static int fewLines;
     private static int spilling;
